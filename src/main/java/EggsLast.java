@@ -86,7 +86,7 @@ public final class EggsLast {
         int fault = tape.read(trial);
         if (fault != 0) {
             latestFault = fault;
-            return FAULT - tape.place();
+            return FAULT - tape.place;
         }
         shop.become(trial);
         acts.forget();
@@ -533,11 +533,7 @@ public final class EggsLast {
             return length;
         }
 
-        /** Where reading ended: with a FAULT, the first byte of its TOKEN. */
-        int place() {
-            return place;
-        }
-
+        /** With a FAULT, place is left at the first byte of its TOKEN. */
         int read(Shop to) {
             place = 0;
             fault = 0;
@@ -600,15 +596,16 @@ public final class EggsLast {
                 fault = NOT_AS_TOLD;
             } else {
                 place += figures;
+                return value;
             }
-            return value;
+            return least;
         }
 
         private int readSort(int thingsAhead) {
-            int kind = fault == 0 && place < length ? Kinds.byLetter(bytes[place]) : Kinds.THING;
             if (fault != 0) {
-                return kind;
+                return Kinds.THING;
             }
+            int kind = place < length ? Kinds.byLetter(bytes[place]) : Kinds.THING;
             if (kind == Kinds.THING) {
                 fault = MISPLACED;
             } else if (thingsAhead >= MOST_THINGS) {
@@ -765,7 +762,7 @@ public final class EggsLast {
         /** Crushes what cannot bear it, as coming to a place by itself does not. */
         void lay(int thing, int place) {
             put(thing, place);
-            crushed |= overladenAt(place);
+            crushed |= overladenBits();
         }
 
         void put(int thing, int place) {
@@ -855,21 +852,15 @@ public final class EggsLast {
             int load = 0;
             int above = bitsAbove(thing);
             for (int other = 0; other < things; other++) {
-                load += (above >> other & 1) == 1 ? pressOf(other) : 0;
+                load += (above >> other & 1) == 1 ? Kinds.press(kind[other], weight[other]) : 0;
             }
             return load;
         }
 
-        boolean isOverladen(int thing) {
-            return loadOn(thing) > bearsOf(thing);
-        }
-
-        int overladenAt(int place) {
+        int overladenBits() {
             int bits = 0;
             for (int thing = 0; thing < things; thing++) {
-                if (where[thing] == place && isOverladen(thing)) {
-                    bits |= 1 << thing;
-                }
+                bits |= loadOn(thing) > bearsOf(thing) ? 1 << thing : 0;
             }
             return bits;
         }
@@ -1054,7 +1045,9 @@ public final class EggsLast {
 
         void seekLeast(Shop shop) {
             begin(shop);
-            seekWithout(shop, NONE);
+            packAllBut(NONE);
+            fewest = MOST_THINGS + 1;
+            goOn(this, 0, shop.crushed, shop.heaviest());
         }
 
         int seekTorn(Shop shop) {
@@ -1062,12 +1055,19 @@ public final class EggsLast {
             return fewestTorn(this, 0, MOST_BAGS);
         }
 
+        /**
+         * Weights do not matter here: the heaviest BAG is told as the heaviest that can be from the
+         * start, so that no WAY is better by it.
+         */
         void seekGive(Shop shop) {
             begin(shop);
             given = NONE;
             givenFewest = NONE;
+            fewest = MOST_THINGS + 1;
             for (int i = 0; i < queued; i++) {
-                seekWithout(shop, queue[i]);
+                packAllBut(queue[i]);
+                lightest = Integer.MAX_VALUE;
+                goOn(this, 0, shop.crushed, Integer.MAX_VALUE);
                 if (given == NONE || fewest < givenFewest) {
                     given = queue[i];
                     givenFewest = fewest;
@@ -1123,7 +1123,7 @@ public final class EggsLast {
             }
         }
 
-        private void seekWithout(Shop shop, int left) {
+        private void packAllBut(int left) {
             packedMany = 0;
             for (int i = 0; i < queued; i++) {
                 if (queue[i] != left) {
@@ -1131,9 +1131,6 @@ public final class EggsLast {
                     packedMany++;
                 }
             }
-            fewest = MOST_THINGS + 1;
-            lightest = 0;
-            goOn(this, 0, shop.crushed, shop.heaviest());
         }
 
         private static void goOn(Ways ways, int depth, int crushed, int heaviest) {
@@ -1145,12 +1142,22 @@ public final class EggsLast {
                 return;
             }
             int thing = ways.packed[depth];
-            for (int bag = 0; bag < ways.bags; bag++) {
+            int bagsToTry = ways.bagsToTry();
+            for (int bag = 0; bag < bagsToTry; bag++) {
                 ways.tried[depth] = bag;
                 int crushedThen = crushed | ways.lay(thing, bag);
                 goOn(ways, depth + 1, crushedThen, Math.max(heaviest, ways.weighs[bag]));
                 ways.lift(thing, bag);
             }
+        }
+
+        /** Of empty BAGS at the end only the first: they are all alike, and it comes first. */
+        private int bagsToTry() {
+            int many = bags;
+            for (int bag = bags - 1; bag > 0 && weighs[bag] == 0 && weighs[bag - 1] == 0; bag--) {
+                many = bag;
+            }
+            return many;
         }
 
         private boolean isBetter(int many, int heaviest) {
@@ -1195,7 +1202,8 @@ public final class EggsLast {
             }
             int thing = ways.queue[depth];
             int least = bestSoFar;
-            for (int bag = 0; bag < ways.bags; bag++) {
+            int bagsToTry = ways.bagsToTry();
+            for (int bag = 0; bag < bagsToTry; bag++) {
                 ways.weighs[bag] += ways.weight[thing];
                 least = fewestTorn(ways, depth + 1, least);
                 ways.weighs[bag] -= ways.weight[thing];
@@ -1343,8 +1351,9 @@ public final class EggsLast {
         }
 
         private static boolean isBroken(Shop shop, int[] items, int from) {
+            int overladen = shop.overladenBits();
             for (int thing = 0; thing < shop.things; thing++) {
-                if (items[from + thing] != (shop.isOverladen(thing) ? 1 : 0)) {
+                if (items[from + thing] != (overladen >> thing & 1)) {
                     return false;
                 }
             }
