@@ -85,6 +85,9 @@ public final class ModelTest {
         }
         same("shop");
         same("fault");
+        for (int i = 0; i < 4; i++) {
+            one(DEAR[random.nextInt(DEAR.length)]);
+        }
     }
 
     private String number(int least, int most) {

@@ -721,6 +721,9 @@ public final class PromisesTest {
         due("22 the tin first", x.order(1, 0), 2);
         due("22 then 3", x.order(1, 1), 3);
         due("22 then 4", x.order(1, 2), 4);
+        x = Due.shopOf("e1,60,1;s1,9;s1,9;");
+        due("22 one whatever the order", x.order(0, -1), 1);
+        due("22 the first of two as good", x.order(0, 0), 0);
         x = Due.shopOf("e2,60,1;s2,5;r8,0;");
         due("22 as much as it BEARS", x.order(1, 0), 0);
         x.beeps(1);
