@@ -1056,22 +1056,29 @@ public final class EggsLast {
         }
 
         /**
-         * Weights do not matter here: the heaviest BAG is told as the heaviest that can be from the
-         * start, so that no WAY is better by it.
+         * By numbers, not as they are packed: the first THING of several is the one of the least
+         * number. Weights do not matter here: the heaviest BAG is told as the heaviest that can be
+         * from the start, so that no WAY is better by it.
          */
         void seekGive(Shop shop) {
             begin(shop);
             given = NONE;
             givenFewest = NONE;
             fewest = MOST_THINGS + 1;
-            for (int i = 0; i < queued; i++) {
-                packAllBut(queue[i]);
-                lightest = Integer.MAX_VALUE;
-                goOn(this, 0, shop.crushed, Integer.MAX_VALUE);
-                if (given == NONE || fewest < givenFewest) {
-                    given = queue[i];
-                    givenFewest = fewest;
+            for (int thing = 0; thing < shop.things; thing++) {
+                if (shop.where[thing] < FIRST_BAG) {
+                    tryWithout(thing, shop.crushed);
                 }
+            }
+        }
+
+        private void tryWithout(int thing, int crushed) {
+            packAllBut(thing);
+            lightest = Integer.MAX_VALUE;
+            goOn(this, 0, crushed, Integer.MAX_VALUE);
+            if (given == NONE || fewest < givenFewest) {
+                given = thing;
+                givenFewest = fewest;
             }
         }
 

@@ -589,7 +589,9 @@ final class Model {
         }
         int who = NONE;
         int many = NONE;
-        for (int t : world.toPack()) {
+        List<Integer> byNumbers = world.toPack();
+        Collections.sort(byNumbers);
+        for (int t : byNumbers) {
             List<Integer> others = world.toPack();
             others.remove((Integer) t);
             int crushed = world.least(others)[0];
