@@ -29,10 +29,36 @@ public final class ModelTest {
     }
 
     public static void main(String[] args) {
+        everyByte("e2,20,3;t12,5;c1,0;");
+        everyByte("e1,5,1;t1,0;b1,0;r1,0;s1,0;c1,0;t1,0;t1,0;");
         for (int seed = 1; seed <= RUNS && DUE.wrong() < 5; seed++) {
             new ModelTest(seed).play();
         }
         DUE.end();
+    }
+
+    /** A text with each of its bytes replaced by every byte there is, or one put ahead of it, or left out. */
+    private static void everyByte(String text) {
+        for (int at = 0; at <= text.length(); at++) {
+            String ahead = text.substring(0, at);
+            String behind = text.substring(at);
+            for (int letter = 0; letter < 256; letter++) {
+                sameText(ahead + (char) letter + behind);
+                sameText(ahead + (char) letter + (behind.isEmpty() ? "" : behind.substring(1)));
+            }
+            sameText(ahead + (behind.isEmpty() ? "" : behind.substring(1)));
+        }
+    }
+
+    private static void sameText(String text) {
+        EggsLast x = new EggsLast();
+        Model model = new Model();
+        for (int i = 0; i < text.length(); i++) {
+            x.feed(text.charAt(i));
+            model.call("feed", text.charAt(i));
+        }
+        DUE.is("shop() of " + text, x.shop(), model.call("shop"));
+        DUE.is("fault() of " + text, x.fault(), model.call("fault"));
     }
 
     private void play() {
