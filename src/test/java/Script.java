@@ -9,8 +9,9 @@ import java.util.List;
  * "tell TEXT" feeds a text; "shop TEXT" feeds and reads it; "laid TEXT" lays all its THINGS by, too;
  * "into BAG THINGS" packs what is LAID BY; "fill ROW LANE ITEMS" makes a ROW of these ITEMS.
  *
- * <p>Behind every line it is looked whether the call changed anything that it must not: so that each
- * refused call of each run is a test that it changes nothing but status().
+ * <p>Behind every line that is one call (of a line done many times, the last time) it is looked whether the
+ * call changed anything that it must not: so each refused call of each run is a test that it changes
+ * nothing but status(). What lines as "laid" make ready is not looked at; it may not be refused.
  */
 final class Script {
     private final Due due;
