@@ -13,6 +13,9 @@ public final class EggsLast {
     private static final int BELT = 0, HEAP = 1, LAID_BY = 2, FIRST_BAG = 3;
     private static final int MOST_THINGS = 7, MOST_BAGS = 3, MOST_BEEPS = 999, IMAGES = 2;
 
+    /** Above all that seven THINGS can weigh, press by or bear. */
+    private static final int BEYOND_ALL = 1000000;
+
     private final Rows rows = new Rows();
     private final Tape tape = new Tape();
     private final Shop shop = new Shop();
@@ -244,7 +247,7 @@ public final class EggsLast {
             return BAD;
         }
         beltOrder.seek(shop);
-        return k == -1 ? beltOrder.crushedBy(bag) : beltOrder.thingAt(k);
+        return k == -1 ? beltOrder.crushedBy(shop, bag) : beltOrder.thingAt(shop, k);
     }
 
     public int top(int bag) {
@@ -882,7 +885,7 @@ public final class EggsLast {
         }
 
         private int leastSpareAt(int place) {
-            int least = Integer.MAX_VALUE;
+            int least = BEYOND_ALL;
             for (int thing = 0; thing < things; thing++) {
                 if (where[thing] == place && !isCrushed(thing)) {
                     least = Math.min(least, bearsOf(thing) - loadOn(thing));
@@ -922,7 +925,7 @@ public final class EggsLast {
         }
 
         int lightest() {
-            int least = Integer.MAX_VALUE;
+            int least = BEYOND_ALL;
             for (int bag = 0; bag < bags; bag++) {
                 least = Math.min(least, weighs(bag));
             }
@@ -1074,8 +1077,8 @@ public final class EggsLast {
 
         private void tryWithout(int thing, int crushed) {
             packAllBut(thing);
-            lightest = Integer.MAX_VALUE;
-            goOn(this, 0, crushed, Integer.MAX_VALUE);
+            lightest = BEYOND_ALL;
+            goOn(this, 0, crushed, BEYOND_ALL);
             if (given == NONE || fewest < givenFewest) {
                 given = thing;
                 givenFewest = fewest;
@@ -1236,38 +1239,36 @@ public final class EggsLast {
 
         private final int[] fewest = new int[SETS];
         private final int[] presses = new int[SETS];
-        private Shop shop;
         private int belt;
 
-        void seek(Shop of) {
-            shop = of;
-            belt = of.bitsAt(BELT);
+        void seek(Shop shop) {
+            belt = shop.bitsAt(BELT);
             for (int set = 1; set <= belt; set++) {
                 if ((set & ~belt) == 0) {
-                    weigh(set);
+                    weigh(shop, set);
                 }
             }
         }
 
-        private void weigh(int set) {
+        private void weigh(Shop shop, int set) {
             presses[set] = 0;
             fewest[set] = MOST_THINGS + 1;
             for (int thing = 0; thing < shop.things; thing++) {
                 if ((set >> thing & 1) == 1) {
                     presses[set] += shop.pressOf(thing);
-                    fewest[set] = Math.min(fewest[set], fewestFrom(set, thing));
+                    fewest[set] = Math.min(fewest[set], fewestFrom(shop, set, thing));
                 }
             }
         }
 
         /** The fewest crushed of a set whose first one is told. */
-        private int fewestFrom(int set, int thing) {
+        private int fewestFrom(Shop shop, int set, int thing) {
             int others = set & ~(1 << thing);
             boolean breaks = shop.isCrushed(thing) || presses[others] > shop.bearsOf(thing);
             return fewest[others] + (breaks ? 1 : 0);
         }
 
-        int crushedBy(int bag) {
+        int crushedBy(Shop shop, int bag) {
             int crushed = shop.crushed & ~belt;
             for (int thing = 0; thing < shop.things; thing++) {
                 if (shop.where[thing] == FIRST_BAG + bag
@@ -1278,19 +1279,19 @@ public final class EggsLast {
             return Integer.bitCount(crushed) + fewest[belt];
         }
 
-        int thingAt(int k) {
+        int thingAt(Shop shop, int k) {
             int set = belt;
-            int thing = firstOf(set);
+            int thing = firstOf(shop, set);
             for (int i = 0; i < k && thing != NONE; i++) {
                 set &= ~(1 << thing);
-                thing = firstOf(set);
+                thing = firstOf(shop, set);
             }
             return thing;
         }
 
-        private int firstOf(int set) {
+        private int firstOf(Shop shop, int set) {
             for (int thing = 0; thing < shop.things; thing++) {
-                if ((set >> thing & 1) == 1 && fewestFrom(set, thing) == fewest[set]) {
+                if ((set >> thing & 1) == 1 && fewestFrom(shop, set, thing) == fewest[set]) {
                     return thing;
                 }
             }

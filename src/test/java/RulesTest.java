@@ -7,6 +7,8 @@ import java.nio.file.Path;
 import java.util.Arrays;
 import java.util.Set;
 import java.util.TreeSet;
+import java.util.regex.Matcher;
+import java.util.regex.Pattern;
 
 /** The face of the class, and the rules of the language that can be seen from outside or in the text. */
 public final class RulesTest {
@@ -30,6 +32,12 @@ public final class RulesTest {
         "addExact", "multiplyExact", "->", "::",
     };
 
+    /** All of the library that the class uses; constants of the library are not among what rule 4 lists. */
+    private static final Set<String> LIBRARY = Set.of("Integer.bitCount", "Math.max", "Math.min",
+        "System.arraycopy");
+    private static final Pattern OF_LIBRARY =
+        Pattern.compile("\\b(Integer|Long|Math|System|String|StringBuilder|Arrays|List|ArrayList)\\b(\\.\\w+)?");
+
     public static void main(String[] args) throws Exception {
         face();
         members();
@@ -51,6 +59,11 @@ public final class RulesTest {
         for (Method method : EggsLast.class.getDeclaredMethods()) {
             if (!Modifier.isPublic(method.getModifiers())) {
                 DUE.holds(method + " is private", Modifier.isPrivate(method.getModifiers()));
+                DUE.holds(method + " has a name of its own", !publicNames.contains(method.getName()));
+            }
+        }
+        for (Class<?> one : EggsLast.class.getDeclaredClasses()) {
+            for (Method method : one.getDeclaredMethods()) {
                 DUE.holds(method + " has a name of its own", !publicNames.contains(method.getName()));
             }
         }
@@ -79,7 +92,9 @@ public final class RulesTest {
         }
         Class<?>[] inside = EggsLast.class.getDeclaredClasses();
         DUE.holds("some twelve classes", inside.length <= 11);
+        noNulls(EggsLast.class);
         for (Class<?> one : inside) {
+            noNulls(one);
             DUE.holds(one + " is static", Modifier.isStatic(one.getModifiers()));
             DUE.holds(one + " is hidden", !Modifier.isPublic(one.getModifiers()));
             int fields = 0;
@@ -95,8 +110,20 @@ public final class RulesTest {
         }
     }
 
+    /** A field for an object that is final is there from the constructor on: it need not be looked at. */
+    private static void noNulls(Class<?> one) {
+        for (Field field : one.getDeclaredFields()) {
+            boolean mayBeNull = !field.getType().isPrimitive() && !Modifier.isFinal(field.getModifiers());
+            DUE.holds(field + " can't be null", !mayBeNull);
+        }
+    }
+
     private static void text(String path) throws Exception {
         String code = withoutComments(Files.readString(Path.of(path)));
+        Matcher library = OF_LIBRARY.matcher(code);
+        while (library.find()) {
+            DUE.holds("rule 4 lists " + library.group(), LIBRARY.contains(library.group()));
+        }
         for (String word : FORBIDDEN) {
             boolean isName = Character.isLetter(word.charAt(0));
             String pattern = isName ? "(?s).*\\b" + word.replace(".", "\\.") + "\\b.*" : null;
